@@ -296,10 +296,17 @@ public final class RingEdgeTest {
         refusal.bad("queue(9, 1, 3)", object -> object.queue(9, 1, 3));
         refusal.bad("queue(3, 0, 3)", object -> object.queue(3, 0, 3));
         refusal.bad("queue(3, 1, 7)", object -> object.queue(3, 1, 7));
+        refusal.bad("queue(3, 3, 3)", object -> object.queue(3, 3, 3));
         refusal.bad("queue(3, 8, 3)", object -> object.queue(3, 8, 3));
+        refusal.bad("queue(3, -1, 3)", object -> object.queue(3, -1, 3));
+        refusal.bad("queue(3, 1, 9)", object -> object.queue(3, 1, 9));
+        refusal.bad("queue(3, 1, -1)", object -> object.queue(3, 1, -1));
         refusal.bad("ways(2, 5)", object -> object.ways(2, 5));
         refusal.bad("ways(9, 5)", object -> object.ways(9, 5));
-        refusal.bad("ways(3, 4)", object -> object.ways(3, 4));
+        refusal.bad("ways(3, -1)", object -> object.ways(3, -1));
+        refusal.bad("ways(3, 2), no 1", object -> object.ways(3, 2));
+        refusal.bad("ways(3, 4), no 2", object -> object.ways(3, 4));
+        refusal.bad("ways(3, 16), none free", object -> object.ways(3, 16));
         refusal.bad("ways(3, 27)", object -> object.ways(3, 27));
     }
 

@@ -468,14 +468,20 @@ public final class RowEdgeTest {
         refusal.bad("weight(64)", object -> object.weight(64));
         refusal.bad("sum(-1)", object -> object.sum(-1));
         refusal.bad("sum(9)", object -> object.sum(9));
+        refusal.bad("chance(-1, 0)", object -> object.chance(-1, 0));
         refusal.bad("chance(64, 0)", object -> object.chance(64, 0));
+        refusal.bad("chance(0, -1)", object -> object.chance(0, -1));
         refusal.bad("chance(0, 2)", object -> object.chance(0, 2));
         refusal.bad("current(2)", object -> object.current(2));
         refusal.bad("current(-1)", object -> object.current(-1));
+        refusal.bad("taken(-1, 0)", object -> object.taken(-1, 0));
         refusal.bad("taken(64, 0)", object -> object.taken(64, 0));
+        refusal.bad("taken(0, -1)", object -> object.taken(0, -1));
         refusal.bad("taken(0, 2)", object -> object.taken(0, 2));
+        refusal.bad("flow(-1, 0)", object -> object.flow(-1, 0));
         refusal.bad("flow(64, 0)", object -> object.flow(64, 0));
         refusal.bad("flow(0, -1)", object -> object.flow(0, -1));
+        refusal.bad("flow(0, 2)", object -> object.flow(0, 2));
         refusal.bad("extreme(2)", object -> object.extreme(2));
         refusal.bad("extreme(-1)", object -> object.extreme(-1));
     }
